@@ -1333,7 +1333,8 @@ public final class NamesBack {
 
     /** A TAPE: its row, or nothing (then its length is 0). Items are kept as longs, cut to what its sort holds. */
     private static final class Tape {
-        private static final int NO_ROW = -1, BYTES = 0, SHORTS = 1, INTS = 2, LONGS = 3, BOOLEANS = 4;
+        /** The sorts that are cut; a row of sort 3 keeps its longs whole. */
+        private static final int NO_ROW = -1, BYTES = 0, SHORTS = 1, INTS = 2, BOOLEANS = 4;
         private static final int MOST_ITEMS = 60;
 
         private int sort = NO_ROW;

@@ -278,6 +278,7 @@ final class HostTest {
             Check.due("37: no items", x.read(sort, 0), NamesBack.NO);
             Check.due("37: there is a row", x.item(sort, 0, 1), -13);
         }
+        Check.due("37: the last TAPE", x.tape(5, 0, 1), 1);
         Check.due("37: holds nothing", x.tape(0, -1, 99), 1);
         Check.due("37: nothing is there", x.item(0, 0, 1), -11);
         Check.due("37: n does not matter", x.tape(0, -1, -99), 1);

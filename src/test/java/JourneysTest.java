@@ -8,6 +8,7 @@ final class JourneysTest {
         promise13Toward();
         promise14NextNamed();
         promise14NextByKind();
+        promise14NextByEnds();
         promise14NextByDrowned();
         promise14NextByCapital();
         promise14NextNowhere();
@@ -134,6 +135,52 @@ final class JourneysTest {
         Check.due("14: GREAT: 4", great.next(0, 6), 4);
     }
 
+    /** A post 2 of a KIND between 0, 1 and 3, 4, all a mile off; it names some, all without PEOPLE. */
+    private static NamesBack middle(int kind, int... named) {
+        NamesBack x = new NamesBack();
+        for (int p = 0; p < 6; p++) {
+            x.place(p == 2 ? kind : 0, 9, 0);
+        }
+        for (int p = 0; p < 5; p++) {
+            x.road(2, p, 1);
+        }
+        for (int p : named) {
+            x.name(2, p);
+        }
+        return x;
+    }
+
+    private static void promise14NextByEnds() {
+        int[] kinds = {0, 1, 2};
+        for (int kind : kinds) {
+            Check.due("14: the first of all, KIND " + kind, middle(kind, 0, 1, 4).next(2, 5), 0);
+            Check.due("14: of two, KIND " + kind, middle(kind, 3, 4).next(2, 5), 3);
+        }
+        int[] last = {3, 6};
+        for (int kind : last) {
+            Check.due("14: the only one, KIND " + kind, middle(kind, 0).next(2, 5), 0);
+            Check.due("14: the last of two, KIND " + kind, middle(kind, 0, 3).next(2, 5), 3);
+            NamesBack x = middle(kind, 0, 1, 4);
+            x.name(2, 5);
+            x.road(4, 5, 1);
+            x.road(5, 1, 9);
+            x.place(0, 0, 0);
+            Check.due("14: the last PLACE, KIND " + kind, x.next(2, 6), 4);
+            x.road(6, 3, 1);
+            x.strike(2, 5);
+            x.strike(2, 4);
+            x.name(2, 6);
+            x.road(2, 3, 0);
+            x.road(2, 4, 0);
+            x.road(2, 0, 0);
+            x.road(2, 1, 0);
+            x.road(2, 6, 3);
+            Check.due("14: the seventh PLACE, KIND " + kind, x.next(2, 5), 6);
+        }
+        // CAPITAL: v 9 modulo 6 is 3
+        Check.due("14: CAPITAL", middle(5, 0).next(2, 5), 3);
+    }
+
     private static void promise14NextByDrowned() {
         Check.due("14: DROWNED, v 4", star(6, 4).next(0, 6), -5);
         Check.due("14: DROWNED, v 5, as LAST", star(6, 5).next(0, 6), 4);
@@ -251,6 +298,14 @@ final class JourneysTest {
         Check.due("17: none, which", x.longest(1), -5);
         Check.due("17: what", x.longest(2), -1);
         Check.due("17: what below", x.longest(-1), -1);
+        NamesBack mile = row(0, 0);
+        Check.due("17: a mile", mile.longest(0), 1);
+        Check.due("17: the mile from 0 to 1", mile.longest(1), 1);
+        // 2 asks, 0 does not: the JOURNEY from 2 to 0 is the longest alone
+        NamesBack back = row(0, 0, 4);
+        back.road(1, 2, 5);
+        Check.due("17: from 2 to 0", back.longest(0), 6);
+        Check.due("17: 2 to 0", back.longest(1), 20);
         // a JOURNEY goes where it is sent: 1 sends who wants to 2 TOWARD 3 by 0, and 0 has a ROAD to 2
         NamesBack y = row(1, 0, 0);
         y.road(1, 2, 0);

@@ -82,6 +82,13 @@ final class LostTest {
         odds(x, 0, 2, 1, 0, 1);
         odds(x, 4, 4, 6, 1, 1);
         odds(x, 3, 3, 5, 1, 1);
+        // 1 stays as well when it names 0 no more
+        x.strike(0, 1);
+        odds(x, 0, 1, 1, 1, 2);
+        odds(x, 0, 1, 2, 3, 4);
+        odds(x, 0, 1, 6, 63, 64);
+        odds(x, 2, 1, 1, 1, 1);
+        x.name(0, 1);
         // 0 to 0: stays twice, or there and back: 1/9 + 2/3
         odds(x, 0, 0, 2, 7, 9);
     }

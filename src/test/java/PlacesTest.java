@@ -16,6 +16,7 @@ final class PlacesTest {
         promise10Land();
         promise10Faults();
         promise10Clauses();
+        promise10BehindFaults();
         promise11Told();
         Check.end("PlacesTest");
     }
@@ -227,7 +228,10 @@ final class PlacesTest {
         fault("great 12p=1", 8);
         fault("great 12  p=1", 9);
         fault("great 12 q=1", 9);
+        fault("great 12 p", 10);
         fault("great 12 p1", 10);
+        fault("great 12 (p)", 11);
+        fault("great 12 p;arms 1", 10);
         fault("great 12 p==1", 11);
         fault("great 12 p=", 11);
         fault("great 12 p=x", 11);
@@ -245,6 +249,8 @@ final class PlacesTest {
         fault("great 12 (p=1&p=2", 17);
         fault("great 12 !", 10);
         fault("great 12 !)", 10);
+        fault("great 12 (!)", 11);
+        fault("great 12 (p=)", 12);
         fault("arms", 4);
         fault("arms ", 5);
         fault("arms -1", 5);
@@ -325,6 +331,24 @@ final class PlacesTest {
         holds("!p=1|p=1", true);
         holds("!(p=1|p=1)", false);
         holds("(!(p=1&(v=6|n=9)))", false);
+    }
+
+    /** What a faulty text told is of no LAND: it stands neither in the one that holds nor in the next one. */
+    private static void promise10BehindFaults() {
+        NamesBack x = places(1);
+        String long1 = "arms 9;great 1 p=0" + "|p=0".repeat(18) + ";great";
+        for (int k = 0; k < 4; k++) {
+            Check.due("10: a long fault", Check.land(x, long1), -10 - long1.length());
+        }
+        Check.due("10: the next one", Check.land(x, "great 5 p=1" + "|p=1".repeat(20) + "|p=0"), 0);
+        Check.due("10: its SIZE alone", x.of(0, 3), 5);
+        Check.due("10: 4 without", x.told(0), 4);
+        Check.due("10: the next one again", Check.land(x, "great 5 p=1" + "|p=1".repeat(21)), 1);
+        Check.due("10: its E does not hold", x.of(0, 3), 0);
+        // ten CLAUSES, each of which counts: 99 signs would not hold ten of great, so eight of them are arms
+        String ten = "great 7 p=0;" + "arms 1;".repeat(8) + "great 3 p=0";
+        Check.due("10: the first and the tenth", Check.land(x, ten), 2);
+        Check.due("10: both count", x.of(0, 3), 10);
     }
 
     private static void promise11Told() {
