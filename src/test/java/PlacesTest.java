@@ -312,6 +312,11 @@ final class PlacesTest {
         holds("n=2", true);
         holds("r=3", true);
         holds("v<10", true);
+        holds("p<99", true);
+        holds("r<99", true);
+        holds("r<3", false);
+        holds("p>99", false);
+        holds("p=99", false);
         holds("v=06", true);
         holds("!p=1", false);
         holds("!p=0", true);
@@ -340,11 +345,14 @@ final class PlacesTest {
         for (int k = 0; k < 4; k++) {
             Check.due("10: a long fault", Check.land(x, long1), -10 - long1.length());
         }
-        Check.due("10: the next one", Check.land(x, "great 5 p=1" + "|p=1".repeat(20) + "|p=0"), 0);
-        Check.due("10: its SIZE alone", x.of(0, 3), 5);
-        Check.due("10: 4 without", x.told(0), 4);
-        Check.due("10: the next one again", Check.land(x, "great 5 p=1" + "|p=1".repeat(21)), 1);
+        Check.due("10: the next one", Check.land(x, "great 5 p=1" + "|p=1".repeat(21)), 0);
         Check.due("10: its E does not hold", x.of(0, 3), 0);
+        Check.due("10: 4 without", x.told(0), 4);
+        for (int k = 0; k < 4; k++) {
+            Check.land(x, long1.replace("p=0", "p=1"));
+        }
+        Check.due("10: one behind that", Check.land(x, "great 5 p=1" + "|p=1".repeat(20) + "|p=0"), 1);
+        Check.due("10: its SIZE alone", x.of(0, 3), 5);
         // ten CLAUSES, each of which counts: 99 signs would not hold ten of great, so eight of them are arms
         String ten = "great 7 p=0;" + "arms 1;".repeat(8) + "great 3 p=0";
         Check.due("10: the first and the tenth", Check.land(x, ten), 2);
