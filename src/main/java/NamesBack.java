@@ -26,16 +26,15 @@ public final class NamesBack {
     /** What a CLAUSE is of: great, far, arms, as their first signs stand in "gfa". */
     private static final int OF_PLACES = 0, OF_ROADS = 1, OF_ARMS = 2;
 
-    private final World world = new World();
+    private final Journeys journeys = new Journeys();
+    /** The World that the journeys are of. */
+    private final World world = journeys.world;
     private final World kept = new World();
     private boolean imaged;
     private final Land noLand = new Land();
     private final Land[] lands = new Land[MOST_LANDS];
     private int landCount;
-    private final char[] text = new char[MOST_SIGNS];
-    private int signs;
-    private final LandReader reader = new LandReader(text);
-    private final Journeys journeys = new Journeys(world);
+    private final LandReader reader = new LandReader();
     private final Acts acts = new Acts();
     private final Tape[] tapes = new Tape[TAPES];
 
@@ -142,12 +141,10 @@ public final class NamesBack {
         if (sign < 0 || sign > 127) {
             return BAD;
         }
-        if (signs >= MOST_SIGNS) {
+        if (reader.length >= MOST_SIGNS) {
             return FULL;
         }
-        text[signs] = (char) sign;
-        signs++;
-        return signs;
+        return reader.addSign((char) sign);
     }
 
     public int land() {
@@ -155,8 +152,8 @@ public final class NamesBack {
             return FULL;
         }
         // a faulty text leaves this LAND half made; it is not counted yet, and is made anew by the next text
-        int fault = reader.faultOf(signs, lands[landCount]);
-        signs = 0;
+        int fault = reader.faultOf(lands[landCount]);
+        reader.empty();
         if (fault >= 0) {
             return -10 - fault;
         }
@@ -474,7 +471,7 @@ public final class NamesBack {
             case 1: return landCount;
             case 2: return world.travellers;
             case 3: return world.rows;
-            case 4: return signs;
+            case 4: return reader.length;
             case 5: return acts.ran;
             default: return BAD;
         }
@@ -825,24 +822,31 @@ public final class NamesBack {
         }
     }
 
-    /** Reads THE TEXT; each part answers whether it stands there, and if not, at is the FAULT. */
+    /** Holds THE TEXT and reads it; each part answers whether it stands there, and if not, at is the FAULT. */
     private static final class LandReader {
         private static final int MOST_AROUND = 4;
         /** No sign that can be fed. */
         private static final char END = (char) 255;
 
-        private final char[] text;
+        private final char[] text = new char[MOST_SIGNS];
         private int length;
         private int at;
         private Land land = new Land();
 
-        private LandReader(char[] itsText) {
-            text = itsText;
+        private int addSign(char sign) {
+            if (length < MOST_SIGNS) {
+                text[length] = sign;
+                length++;
+            }
+            return length;
         }
 
-        /** The FAULT of the first signs of THE TEXT, or -1: they are a LAND, which this one becomes. */
-        private int faultOf(int signCount, Land into) {
-            length = Math.min(signCount, text.length);
+        private void empty() {
+            length = 0;
+        }
+
+        /** The FAULT of THE TEXT, or -1: it is a LAND, which this one becomes. */
+        private int faultOf(Land into) {
             at = 0;
             land = into;
             land.clear();
@@ -969,7 +973,7 @@ public final class NamesBack {
         }
     }
 
-    /** What follows from the World and the LAND that holds. Each find.. needs what the ones ahead of it found. */
+    /** The World and what follows from it under a LAND. Each find.. needs what the ones ahead of it found. */
     private static final class Journeys {
         /** A STEP's odds are cut into as many shares: 1 to 6 names part them evenly. */
         private static final int SHARES = 60;
@@ -977,7 +981,7 @@ public final class NamesBack {
         /** Longer than any WAY. */
         private static final int ENDLESS = 1000000;
 
-        private final World world;
+        private final World world = new World();
         private final int[] facts = new int[6];
         private final int[] sizes = new int[MOST_PLACES];
         private final int[] extra = new int[MOST_PLACES];
@@ -992,10 +996,6 @@ public final class NamesBack {
         private int falseInstead;
         private int walkedRoads;
         private int walkedLong;
-
-        private Journeys(World itsWorld) {
-            world = itsWorld;
-        }
 
         private void findSizes(Land land) {
             for (int p = 0; p < world.places; p++) {
