@@ -1,7 +1,5 @@
-/** Each sentence that names a boundary, of PUT, STRIKE, FALSE, CHAIN, ALL IN, CAPITALS, ROAD: Terms 2, promises 18 to 24. */
+/** Each sentence that names a boundary, of PUT, STRIKE, FALSE, CHAIN, ALL IN, CAPITALS, ROAD: promises 18 to 24. */
 final class BoundsArmsTest {
-    private static final String[] NO_PLACES = {"LOW", "-5", "-2", "-1", "3", "4", "7", "10", "HIGH"};
-
     private BoundsArmsTest() {
     }
 
@@ -94,7 +92,8 @@ final class BoundsArmsTest {
 
     private static void strikeNone() {
         Check.sentence("STRIKE: of NAMES (likewise: -5: there is none such pair). NONE");
-        Told x = new Told().dueAll(-5, "worst(0)", "worst(1)").runs("place(0, 0, 0)").dueAll(-5, "worst(0)", "worst(1)");
+        Told x = new Told().dueAll(-5, "worst(0)", "worst(1)");
+        x.runs("place(0, 0, 0)").dueAll(-5, "worst(0)", "worst(1)");
         x.runs("place(0, 0, 0) road(0, 1, 1)").dueAll(-5, "worst(0)", "worst(1)");
         x.dueAll(-1, "worst(-1)", "worst(2)", "worst(LOW)", "worst(HIGH)");
         x.runs("name(0, 1)").due("worst(0)", 1).due("worst(1)", 0).dueAll(-1, "worst(-1)", "worst(2)");
@@ -123,7 +122,7 @@ final class BoundsArmsTest {
     }
 
     private static void falseTheNext() {
-        Check.sentence("FALSE: the next one by numbers (behind the last the first; if that is this PLACE, the one behind it)");
+        Check.sentence("the next one by numbers (behind the last the first; if that is this PLACE, the one behind it)");
         // centre, named, the one TOWARD which one is sent
         int[][] sent = {{0, 1, 2}, {0, 5, 6}, {6, 0, 1}, {3, 4, 5}, {3, 1, 2}, {1, 6, 0}, {5, 6, 0}, {0, 6, 1},
             {1, 0, 2}, {3, 2, 4}, {5, 4, 6}, {6, 5, 0}};
@@ -161,7 +160,7 @@ final class BoundsArmsTest {
         Told x = Told.places(3).runs("name(0, 1) road(0, 2, 1)");
         x.dueAll(-3, "turned(0, 2)", "turned(2, 0)", "turned(0, 0)", "turned(2, 2)", "turned(1, 2)");
         x.due("turned(0, 1)", 4).due("turned(1, 0)", 4);
-        for (String p : NO_PLACES) {
+        for (String p : Told.NO_PLACES) {
             x.dueAll(-1, "turned(" + p + ", 0)", "turned(2, " + p + ")", "turned(" + p + ", " + p + ")");
         }
         new Told().due("turned(0, 0)", -1);
@@ -185,7 +184,7 @@ final class BoundsArmsTest {
     private static void chainRefuses() {
         Check.sentence("chain: NONE; BAD: one PLACE");
         Told x = Told.places(3).runs("name(0, 1)").dueAll(-2, "chain(0, 0)", "chain(1, 1)", "chain(2, 2)");
-        for (String p : NO_PLACES) {
+        for (String p : Told.NO_PLACES) {
             x.dueAll(-1, "chain(" + p + ", 0)", "chain(2, " + p + ")", "chain(" + p + ", " + p + ")");
         }
         new Told().dueAll(-1, "chain(0, 0)", "chain(0, 1)");
@@ -238,12 +237,7 @@ final class BoundsArmsTest {
         x.runs("place(0, 0, 0)").due("newRoad(1, 0)", 1).due("newRoad(1, 1)", 1996);
         x.dueAll(-1, "newRoad(1, -1)", "newRoad(1, 2)", "newRoad(99, LOW)", "newRoad(99, HIGH)");
         x.runs("road(0, 1, 99)").dueAll(-5, "newRoad(1, 0)", "newRoad(1, 1)");
-        Told y = Told.places(7);
-        for (int p = 0; p < 7; p++) {
-            for (int q = p + 1; q < 7; q++) {
-                y.runs("road(" + p + ", " + q + ", 9)");
-            }
-        }
+        Told y = Told.places(7).pairs(7, "road(P, Q, 9)");
         y.dueAll(-5, "newRoad(1, 0)", "newRoad(1, 1)").runs("road(5, 6, 0)").due("newRoad(99, 0)", 56);
         y.due("newRoad(9, 1)", 18).due("newRoad(17, 1)", 2).due("newRoad(18, 1)", 0).due("newRoad(19, 1)", 0);
     }
@@ -267,7 +261,8 @@ final class BoundsArmsTest {
         x.runs("road(0, 2, 99)").due("newRoad(1, 0)", 13).due("newRoad(1, 1)", 2);
         x.runs("road(1, 3, 99)").dueAll(-5, "newRoad(1, 0)", "newRoad(1, 1)");
         Check.sentence("all WAYS, together, are least: not the first, not the last pair");
-        Told y = Told.places(7).runs("road(0, 2, 1) road(1, 2, 1) road(2, 3, 50) road(3, 4, 50) road(4, 5, 1) road(4, 6, 1)");
+        Told y = Told.places(7).runs("road(0, 2, 1) road(1, 2, 1) road(2, 3, 50)");
+        y.runs("road(3, 4, 50) road(4, 5, 1) road(4, 6, 1)");
         // with 24 the WAYS of 0, 1, 2 to 4, 5, 6 are 99 less each
         y.due("newRoad(1, 0)", 24).due("newRoad(1, 1)", 2 * 9 * 99);
     }

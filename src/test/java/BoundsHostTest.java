@@ -150,30 +150,24 @@ final class BoundsHostTest {
 
     private static void undoFull() {
         Check.sentence("THE IMAGE: PLACES, ROADS, NAMES, TRAVELLERS, the BOOK: full, and none");
-        Told x = Told.places(7).runs("image()").lands("arms 6");
-        for (int p = 0; p < 7; p++) {
-            for (int q = p + 1; q < 7; q++) {
-                x.runs("road(" + p + ", " + q + ", 9) name(" + p + ", " + q + ")");
-            }
-        }
+        String all = "road(P, Q, 9) name(P, Q)";
+        Told x = Told.places(7).runs("image()").lands("arms 6").pairs(7, all);
         x.runs("traveller(5, 6, 99) ".repeat(8)).runs("book(6) ".repeat(12)).due("undo()", 7);
         x.dueAll(0, "of(0, 4)", "of(6, 4)", "of(0, 5)", "of(6, 5)", "told(1)", "count(2)", "count(3)", "lost(0)");
-        x.lands("arms 6");
-        for (int p = 0; p < 7; p++) {
-            for (int q = p + 1; q < 7; q++) {
-                x.runs("road(" + p + ", " + q + ", 9) name(" + p + ", " + q + ")");
-            }
-        }
+        x.lands("arms 6").pairs(7, all);
         x.runs("traveller(5, 6, 99) ".repeat(8)).runs("book(6) ".repeat(12)).runs("image() book(-1) strike(5, 6)");
         x.runs("road(5, 6, 0)").due("undo()", 7).due("told(1)", 21).due("of(6, 5)", 63).due("count(2)", 8);
-        x.due("count(3)", 12).due("looked(6)", 1).due("looked(0)", 1).due("traveller(0, 1, 1)", -4).due("book(0)", -4).due("place(0, 0, 0)", -4);
+        x.due("count(3)", 12).due("looked(6)", 1).due("looked(0)", 1);
+        x.dueAll(-4, "traveller(0, 1, 1)", "book(0)", "place(0, 0, 0)");
     }
 
     private static void undoBook() {
         Check.sentence("THE IMAGE: the BOOK, row by row");
-        Told x = BoundsJourneysTest.row(Told.kinds(4, 4, 4), 1, 1).runs("book(2) book(1) book(0) image()").due("looked(0)", -5);
+        Told x = BoundsJourneysTest.row(Told.kinds(4, 4, 4), 1, 1).runs("book(2) book(1) book(0) image()");
+        x.due("looked(0)", -5);
         x.runs("book(-1) book(0) book(0) book(0) book(0)").due("looked(0)", 1).due("undo()", 3).due("looked(0)", -5);
-        x.runs("book(-1)").due("undo()", 3).due("count(3)", 3).due("looked(0)", -5).due("book(0)", 4).due("looked(0)", 3);
+        x.runs("book(-1)").due("undo()", 3).due("count(3)", 3).due("looked(0)", -5);
+        x.due("book(0)", 4).due("looked(0)", 3);
     }
 
     private static void actNone() {
@@ -303,15 +297,16 @@ final class BoundsHostTest {
         for (int i = 0; i < 60; i++) {
             x.due("read(0, " + i + ")", 0);
         }
-        x.runs("item(0, 0, 7) item(0, 5, 7) tape(0, 3, 1)").due("read(0, 0)", 0).runs("tape(0, 3, 6)").due("read(0, 5)", 0);
+        x.runs("item(0, 0, 7) item(0, 5, 7) tape(0, 3, 1)").due("read(0, 0)", 0);
+        x.runs("tape(0, 3, 6)").due("read(0, 5)", 0);
         x.runs("item(0, 5, 7) tape(0, -1, 0) tape(0, 4, 6)").due("read(0, 5)", 0);
     }
 
     private static void tapeRefusesInOrder() {
         Check.sentence("the first that a call's words name: NONE: tape; BAD: sort, n above 60; SIZE");
         Told x = new Told().dueAll(-1, "tape(6, 5, 61)", "tape(-1, -2, -1)", "tape(6, 0, -1)", "tape(6, 0, 61)");
-        x.dueAll(-2, "tape(0, 5, -1)", "tape(0, -2, -1)", "tape(0, 5, 61)", "tape(0, 5, LOW)").due("tape(0, 4, -1)", -14);
-        x.due("item(0, 0, 1)", -11);
+        x.dueAll(-2, "tape(0, 5, -1)", "tape(0, -2, -1)", "tape(0, 5, 61)", "tape(0, 5, LOW)");
+        x.due("tape(0, 4, -1)", -14).due("item(0, 0, 1)", -11);
     }
 
     private static void keeps(int sort, long v, long kept) {
@@ -392,7 +387,8 @@ final class BoundsHostTest {
         x.dueAll(-13, "shift(2, 0, 3, 0, 1)", "shift(2, 1, 3, 0, 0)", "shift(2, 0, 3, 1, 0)");
         Check.sentence("shift: all items of a row of 60");
         Told y = new Told().runs("tape(4, 3, 60) tape(5, 3, 60) item(4, 0, -1) item(4, 59, 9)");
-        y.due("shift(4, 0, 5, 0, 60)", 60).due("read(5, 0)", -1).due("read(5, 59)", 9).due("shift(4, 0, 5, 0, 61)", -13);
+        y.due("shift(4, 0, 5, 0, 60)", 60).due("read(5, 0)", -1).due("read(5, 59)", 9);
+        y.due("shift(4, 0, 5, 0, 61)", -13);
     }
 
     private static void shiftEnds() {

@@ -1,7 +1,5 @@
-/** Each sentence that names a boundary, of WAY, TOWARD, JOURNEY, GONE, LOST, LONGEST: Terms 1 and 2, promises 12 to 17. */
+/** Each sentence that names a boundary, of WAY, TOWARD, JOURNEY, GONE, LOST, LONGEST: promises 12 to 17. */
 final class BoundsJourneysTest {
-    private static final String[] NO_PLACES = {"LOW", "-5", "-2", "-1", "3", "4", "7", "10", "HIGH"};
-
     private BoundsJourneysTest() {
     }
 
@@ -44,7 +42,7 @@ final class BoundsJourneysTest {
     }
 
     private static void refusesNoPlaces(Told x, String call, String end) {
-        for (String p : NO_PLACES) {
+        for (String p : Told.NO_PLACES) {
             x.dueAll(-1, call + "(" + p + ", 0" + end, call + "(2, " + p + end, call + "(" + p + ", " + p + end);
         }
         new Told().dueAll(-1, call + "(0, 0" + end, call + "(0, 1" + end);
@@ -52,7 +50,8 @@ final class BoundsJourneysTest {
 
     private static void wayOfOne() {
         Check.sentence("WAY (0: one PLACE; -5: by none). NONE");
-        Told x = Told.places(3).dueAll(0, "way(0, 0)", "way(2, 2)").runs("road(0, 2, 1)").lands("far 9 p<9;great 9 p<9");
+        Told x = Told.places(3).dueAll(0, "way(0, 0)", "way(2, 2)");
+        x.runs("road(0, 2, 1)").lands("far 9 p<9;great 9 p<9");
         x.dueAll(0, "way(0, 0)", "way(1, 1)", "way(2, 2)").due("way(0, 2)", 10);
         refusesNoPlaces(x, "way", ")");
     }
@@ -202,8 +201,9 @@ final class BoundsJourneysTest {
         post(5, 3, 6).due("next(3, 6)", -5);
         post(5, 4, 6, 5).due("next(3, 6)", 4);
         post(5, 2, 6, 5).due("next(3, 6)", 2);
-        Told x = new Told().runs("place(5, 7, 0) place(0, 0, 0) place(0, 0, 0) place(0, 0, 0) road(0, 1, 1) road(0, 2, 1)");
-        x.runs("name(0, 2)").due("next(0, 3)", -5).runs("road(0, 3, 1) place(0, 0, 0)").due("next(0, 4)", 2);
+        Told x = new Told().runs("place(5, 7, 0) place(0, 0, 0) place(0, 0, 0) place(0, 0, 0)");
+        x.runs("road(0, 1, 1) road(0, 2, 1) name(0, 2)").due("next(0, 3)", -5);
+        x.runs("road(0, 3, 1) place(0, 0, 0)").due("next(0, 4)", 2);
         x.runs("place(0, 0, 0)").due("next(0, 4)", 1).runs("place(0, 0, 0)").due("next(0, 4)", 2);
     }
 
@@ -302,7 +302,8 @@ final class BoundsJourneysTest {
 
     private static void lostPairs() {
         Check.sentence("how many pairs of unlike PLACES (both ways) there are such that a JOURNEY is LOST. NONE");
-        Told x = new Told().dueAll(0, "lost(0)", "lost(1)").dueAll(-1, "lost(-1)", "lost(2)", "lost(LOW)", "lost(HIGH)");
+        Told x = new Told().dueAll(0, "lost(0)", "lost(1)");
+        x.dueAll(-1, "lost(-1)", "lost(2)", "lost(LOW)", "lost(HIGH)");
         for (int p = 0; p < 7; p++) {
             x.runs("place(0, 0, 0)").due("lost(1)", p * (p + 1)).due("lost(0)", 0);
         }
@@ -335,12 +336,7 @@ final class BoundsJourneysTest {
 
     private static void longestOfSeveral() {
         Check.sentence("(of several the first by FROM, then TO): 10 times FROM, and TO");
-        Told x = Told.places(7);
-        for (int p = 0; p < 7; p++) {
-            for (int q = p + 1; q < 7; q++) {
-                x.runs("road(" + p + ", " + q + ", 50)");
-            }
-        }
+        Told x = Told.places(7).pairs(7, "road(P, Q, 50)");
         x.due("longest(1)", 1).due("longest(0)", 50).runs("road(0, 1, 49)").due("longest(1)", 2);
         x.runs("road(5, 6, 51)").due("longest(1)", 56).due("longest(0)", 51);
         x.runs("road(2, 6, 51)").due("longest(1)", 26).runs("road(2, 4, 51)").due("longest(1)", 24);

@@ -1,6 +1,5 @@
 /** Each sentence that names a boundary, of GETS, ODDS, MEAN, the BOOK, LOOKED: Terms 2, promises 25 to 29. */
 final class BoundsLostTest {
-    private static final String[] NO_PLACES = {"LOW", "-5", "-2", "-1", "3", "4", "7", "10", "HIGH"};
     private static final long NO = Long.MIN_VALUE;
 
     private BoundsLostTest() {
@@ -30,7 +29,7 @@ final class BoundsLostTest {
         Check.sentence("GETS: how many of MANY of TRAVELLERS that are LOST come to stand there at last. NONE");
         Told x = Told.places(3).dueAll(0, "gets(0)", "gets(2)").runs("road(0, 1, 1) traveller(0, 1, 99)");
         x.dueAll(0, "gets(0)", "gets(1)", "gets(2)");
-        for (String p : NO_PLACES) {
+        for (String p : Told.NO_PLACES) {
             x.due("gets(" + p + ")", -1);
         }
         new Told().due("gets(0)", -1);
@@ -71,12 +70,7 @@ final class BoundsLostTest {
 
     private static void oddsOfSixSteps() {
         Check.sentence("ODDS of 6 STEPS, a fraction in lowest terms: by six names at each of seven PLACES");
-        Told x = Told.places(7).lands("arms 6");
-        for (int p = 0; p < 7; p++) {
-            for (int q = p + 1; q < 7; q++) {
-                x.runs("road(" + p + ", " + q + ", 9) name(" + p + ", " + q + ")");
-            }
-        }
+        Told x = Told.places(7).lands("arms 6").pairs(7, "road(P, Q, 9) name(P, Q)");
         // of the 6 to the power of n ways, those that end where they begin: 0, 6, 30, 186, 1110, 6666
         odds(x, "0, 0, 1", 0, 1);
         odds(x, "0, 0, 2", 1, 6);
@@ -94,7 +88,7 @@ final class BoundsLostTest {
         Told x = Told.places(3).runs("road(0, 1, 1) name(0, 1)").due("odds(0, 1, 6, 0)", 0).due("odds(0, 1, 6, 1)", 1);
         x.dueAll(NO, "odds(0, 1, 1, -1)", "odds(0, 1, 1, 2)", "odds(0, 1, 1, LOW)", "odds(0, 1, 1, HIGH)");
         x.dueAll(NO, "odds(0, 1, -1, 0)", "odds(0, 1, 7, 0)", "odds(0, 1, LOW, 1)", "odds(0, 1, HIGH, 1)");
-        for (String p : NO_PLACES) {
+        for (String p : Told.NO_PLACES) {
             x.dueAll(NO, "odds(" + p + ", 0, 1, 0)", "odds(2, " + p + ", 1, 1)", "odds(" + p + ", " + p + ", 0, 0)");
         }
         new Told().dueAll(NO, "odds(0, 0, 0, 0)", "odds(0, 1, 1, 1)");
@@ -145,7 +139,8 @@ final class BoundsLostTest {
         Told x = new Told().dueAll(NO, "mean(0)", "mean(1)", "mean(-1)", "mean(2)", "mean(LOW)", "mean(HIGH)");
         x.runs("place(0, 0, 0)").dueAll(NO, "mean(0)", "mean(1)");
         x.runs("place(0, 0, 0)").dueAll(NO, "mean(0)", "mean(1)");
-        x.runs("road(0, 1, 1)").dueAll(1, "mean(0)", "mean(1)").dueAll(NO, "mean(-1)", "mean(2)", "mean(LOW)", "mean(HIGH)");
+        x.runs("road(0, 1, 1)").dueAll(1, "mean(0)", "mean(1)");
+        x.dueAll(NO, "mean(-1)", "mean(2)", "mean(LOW)", "mean(HIGH)");
         x.runs("road(0, 1, 0)").dueAll(NO, "mean(0)", "mean(1)");
     }
 
@@ -179,7 +174,7 @@ final class BoundsLostTest {
     private static void bookRefuses() {
         Check.sentence("book: NONE");
         Told x = Told.places(3).due("book(2)", 1);
-        for (String p : NO_PLACES) {
+        for (String p : Told.NO_PLACES) {
             if (!p.equals("-1")) {
                 x.due("book(" + p + ")", -1);
             }
@@ -193,14 +188,14 @@ final class BoundsLostTest {
         Check.sentence("LOOKED: (-5: none). NONE");
         Told x = Told.places(3).runs("road(0, 1, 1)").dueAll(-5, "looked(0)", "looked(2)");
         x.runs("book(2)").dueAll(-5, "looked(0)", "looked(2)").runs("book(-1) book(0) book(1)").due("looked(1)", -5);
-        for (String p : NO_PLACES) {
+        for (String p : Told.NO_PLACES) {
             x.due("looked(" + p + ")", -1);
         }
         new Told().due("looked(0)", -1);
     }
 
     private static void lookedFirst() {
-        Check.sentence("LOOKED: the first row (from 1) to which one who wants there does not go from the one ahead of it");
+        Check.sentence("LOOKED: the first row (from 1) to which one does not go from the one ahead of it");
         Told x = BoundsJourneysTest.row(Told.kinds(4, 4, 4, 4), 1, 1, 1).runs("book(0) book(2)");
         x.due("looked(3)", 1).runs("book(-1) book(0) book(1) book(3)").due("looked(3)", 2).due("looked(2)", 2);
         x.runs("book(-1) book(0) book(1) book(2) book(3)").due("looked(3)", -5).due("looked(0)", 1).due("looked(1)", 2);
@@ -218,7 +213,8 @@ final class BoundsLostTest {
 
     private static void lookedLast() {
         Check.sentence("LOOKED: the last of twelve rows");
-        Told x = Told.places(3).runs("road(0, 1, 1) name(0, 1)").runs("book(0) book(1) ".repeat(6)).due("looked(2)", -5);
+        Told x = Told.places(3).runs("road(0, 1, 1) name(0, 1)").runs("book(0) book(1) ".repeat(6));
+        x.due("looked(2)", -5);
         x.runs("book(-1)").runs("book(0) book(1) ".repeat(5)).runs("book(0)").due("looked(2)", -5);
         x.runs("book(0)").due("looked(2)", 11).due("count(3)", 12);
     }

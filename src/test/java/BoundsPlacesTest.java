@@ -1,7 +1,5 @@
 /** Each sentence that names a boundary, of PLACES, ROADS, NAMES, TRAVELLERS: Terms 1, promises 1 to 8. */
 final class BoundsPlacesTest {
-    private static final String[] NO_PLACES = {"LOW", "-5", "-2", "-1", "3", "4", "7", "10", "HIGH"};
-
     private BoundsPlacesTest() {
     }
 
@@ -98,7 +96,7 @@ final class BoundsPlacesTest {
         x.due("of(0, 0)", 1).due("of(2, 0)", 3).due("of(2, 1)", 9).due("of(2, 2)", 7).due("of(2, 3)", 7);
         x.due("of(2, 4)", 0).due("of(2, 5)", 0);
         x.dueAll(-1, "of(0, -1)", "of(0, 6)", "of(2, LOW)", "of(2, HIGH)");
-        for (String p : NO_PLACES) {
+        for (String p : Told.NO_PLACES) {
             x.dueAll(-1, "of(" + p + ", 0)", "of(" + p + ", 5)", "of(" + p + ", 6)");
         }
     }
@@ -137,7 +135,7 @@ final class BoundsPlacesTest {
         Check.sentence("road: NONE; BAD: one PLACE, miles (0 .. 99)");
         Told x = Told.places(3);
         x.dueAll(-2, "road(0, 0, 0)", "road(0, 0, 5)", "road(2, 2, 99)", "road(2, 2, 100)", "road(1, 1, -1)");
-        for (String p : NO_PLACES) {
+        for (String p : Told.NO_PLACES) {
             x.dueAll(-1, "road(" + p + ", 0, 5)", "road(0, " + p + ", 5)", "road(" + p + ", " + p + ", 5)",
                     "road(2, " + p + ", 100)", "road(" + p + ", 2, -1)");
         }
@@ -151,7 +149,7 @@ final class BoundsPlacesTest {
         x.due("far(0, 1)", 100).due("far(1, 0)", 100);
         x.dueAll(0, "far(0, 2)", "far(2, 1)", "far(0, 0)", "far(2, 2)");
         x.runs("road(0, 1, 0)").due("far(0, 1)", 0);
-        for (String p : NO_PLACES) {
+        for (String p : Told.NO_PLACES) {
             x.dueAll(-1, "far(" + p + ", 0)", "far(2, " + p + ")", "far(" + p + ", " + p + ")");
         }
     }
@@ -169,7 +167,7 @@ final class BoundsPlacesTest {
         Told x = Told.places(3).runs("name(0, 1)");
         x.dueAll(-2, "name(0, 0)", "name(2, 2)");
         x.dueAll(-3, "name(0, 1)", "name(1, 0)");
-        for (String p : NO_PLACES) {
+        for (String p : Told.NO_PLACES) {
             x.dueAll(-1, "name(" + p + ", 0)", "name(2, " + p + ")", "name(" + p + ", " + p + ")");
         }
         x.due("told(1)", 1);
@@ -209,7 +207,7 @@ final class BoundsPlacesTest {
     private static void strikes() {
         Check.sentence("They name each other no more: how many the one names then. NONE; STATE: they do not");
         Told x = Told.places(3).runs("name(0, 1) name(0, 2)");
-        for (String p : NO_PLACES) {
+        for (String p : Told.NO_PLACES) {
             x.dueAll(-1, "strike(" + p + ", 0)", "strike(2, " + p + ")", "strike(" + p + ", " + p + ")");
         }
         x.dueAll(-3, "strike(1, 2)", "strike(2, 1)", "strike(0, 0)", "strike(2, 2)").due("told(1)", 2);
@@ -243,7 +241,7 @@ final class BoundsPlacesTest {
     private static void travellerRefuses() {
         Check.sentence("traveller: NONE: places; BAD: one PLACE");
         Told x = Told.places(3);
-        for (String p : NO_PLACES) {
+        for (String p : Told.NO_PLACES) {
             x.dueAll(-1, "traveller(" + p + ", 0, 1)", "traveller(2, " + p + ", 1)",
                     "traveller(" + p + ", " + p + ", 0)", "traveller(0, " + p + ", 100)");
         }

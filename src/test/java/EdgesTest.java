@@ -1,8 +1,8 @@
-/** Every call with numbers from the edges of what a call takes, and far beyond: no call throws, each answers as the Model. */
+/** Every call with numbers from the edges of what a call takes, and far beyond: it answers as the Model. */
 final class EdgesTest {
     private static final int[] FEW = {Integer.MIN_VALUE, -2, -1, 0, 1, 5, 6, 7, Integer.MAX_VALUE};
-    private static final int[] MANY = {Integer.MIN_VALUE, Integer.MIN_VALUE + 1, -100, -14, -6, -5, -2, -1, 0, 1, 2, 3, 4,
-        5, 6, 7, 8, 9, 10, 11, 12, 13, 20, 59, 60, 61, 98, 99, 100, 101, 127, 128, 999, Integer.MAX_VALUE - 1,
+    private static final int[] MANY = {Integer.MIN_VALUE, Integer.MIN_VALUE + 1, -100, -14, -6, -5, -2, -1, 0, 1, 2, 3,
+        4, 5, 6, 7, 8, 9, 10, 11, 12, 13, 20, 59, 60, 61, 98, 99, 100, 101, 127, 128, 999, Integer.MAX_VALUE - 1,
         Integer.MAX_VALUE};
     private static final String[] LANDS = {"", "arms 6;far 3 n>1", "great 9 r>1|c>4;far 40 k=0&v<9"};
 

@@ -51,7 +51,8 @@ final class RefusedTest {
         for (int k = 0; k < 6; k++) {
             x.lands(k < 5 ? "arms 9" : "arms 3;far 2 r>1");
         }
-        x.runs("road(0, 1, 4) road(1, 2, 9) road(2, 3, 1) road(3, 4, 7) road(4, 5, 2) image() road(5, 6, 3) road(0, 3, 8)");
+        x.runs("road(0, 1, 4) road(1, 2, 9) road(2, 3, 1) road(3, 4, 7) road(4, 5, 2) image()");
+        x.runs("road(5, 6, 3) road(0, 3, 8)");
         x.runs("name(0, 2) name(0, 4) name(0, 6) name(1, 3) name(2, 5) name(3, 6)");
         x.runs("traveller(0, 6, 99) traveller(6, 0, 98) traveller(1, 4, 7) traveller(4, 1, 1) ".repeat(2));
         x.runs("book(0) book(1) book(2) ".repeat(4)).runs("tape(0, 1, 3) item(0, 2, 7) tape(5, 3, 2) act(6, 1, 8)");
@@ -109,10 +110,12 @@ final class RefusedTest {
     private static void refusesPlaces() {
         Check.sentence("What is answered so changes nothing: place, road, traveller, book");
         refused("some", -1, "place(-1, 0, 0)", "place(7, 9, 99)", "road(0, 5, 3)", "road(5, 0, 3)", "road(-1, 0, 3)",
-                "road(5, 5, 3)", "traveller(0, 5, 1)", "traveller(5, 0, 1)", "traveller(0, -1, 1)", "book(5)", "book(-2)");
-        refused("some", -2, "place(0, 10, 5)", "place(0, -1, 5)", "place(0, 5, 100)", "place(0, 5, -1)", "road(0, 0, 3)",
-                "road(4, 4, 0)", "road(0, 1, 100)", "road(0, 1, -1)", "road(0, 2, 100)", "traveller(0, 0, 1)",
-                "traveller(0, 1, 0)", "traveller(0, 1, 100)", "traveller(4, 0, -1)", "feed(-1)", "feed(128)");
+                "road(5, 5, 3)", "traveller(0, 5, 1)", "traveller(5, 0, 1)", "traveller(0, -1, 1)", "book(5)",
+                "book(-2)");
+        refused("some", -2, "place(0, 10, 5)", "place(0, -1, 5)", "place(0, 5, 100)", "place(0, 5, -1)",
+                "road(0, 0, 3)", "road(4, 4, 0)", "road(0, 1, 100)", "road(0, 1, -1)", "road(0, 2, 100)",
+                "traveller(0, 0, 1)", "traveller(0, 1, 0)", "traveller(0, 1, 100)", "traveller(4, 0, -1)", "feed(-1)",
+                "feed(128)");
     }
 
     private static void refusesNames() {
@@ -168,9 +171,9 @@ final class RefusedTest {
         String[] calls = {"of(0, 3)", "of(4, 5)", "far(0, 1)", "told(0)", "told(1)", "way(0, 2)", "toward(0, 2)",
             "next(0, 2)", "gone(0, 2, 0)", "gone(0, 2, 1)", "lost(0)", "lost(1)", "longest(0)", "longest(1)", "put(0)",
             "put(1)", "worst(0)", "worst(1)", "turned(0, 2)", "turned(2, 0)", "turned(1, 3)", "turned(3, 1)",
-            "chain(0, 3)", "allIn(1)", "allIn(6)", "capitals()", "newRoad(1, 0)", "newRoad(99, 1)", "gets(0)", "gets(4)",
-            "odds(0, 2, 6, 0)", "odds(0, 0, 0, 1)", "mean(0)", "mean(1)", "looked(0)", "looked(2)", "judge(0, 0)",
-            "judge(4, 1)", "trace(0)", "taken(4, 3)", "count(0)", "count(5)", "read(0, 0)", "read(5, 1)"};
+            "chain(0, 3)", "allIn(1)", "allIn(6)", "capitals()", "newRoad(1, 0)", "newRoad(99, 1)", "gets(0)",
+            "gets(4)", "odds(0, 2, 6, 0)", "odds(0, 0, 0, 1)", "mean(0)", "mean(1)", "looked(0)", "looked(2)",
+            "judge(0, 0)", "judge(4, 1)", "trace(0)", "taken(4, 3)", "count(0)", "count(5)", "read(0, 0)", "read(5, 1)"};
         for (String call : calls) {
             changesNothing("some", call);
             changesNothing("full", call);
@@ -189,7 +192,8 @@ final class RefusedTest {
         Check.sentence("what is not refused does change something");
         String[] calls = {"place(0, 0, 0)", "road(0, 1, 6)", "road(0, 4, 1)", "name(2, 3)", "strike(0, 1)",
             "traveller(0, 4, 1)", "feed(57)", "land()", "book(4)", "book(-1)", "image()", "undo()", "act(0, 0, 5)",
-            "act(5, 0, 5)", "tape(0, 2, 3)", "tape(5, 0, 0)", "tape(3, -1, 0)", "item(0, 1, 1)", "shift(0, 0, 4, 0, 1)"};
+            "act(5, 0, 5)", "tape(0, 2, 3)", "tape(5, 0, 0)", "tape(3, -1, 0)", "item(0, 1, 1)",
+            "shift(0, 0, 4, 0, 1)"};
         for (String call : calls) {
             changed(call, true);
         }

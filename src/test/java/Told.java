@@ -8,12 +8,14 @@ import java.util.regex.Matcher;
 import java.util.regex.Pattern;
 
 /**
- * An object of NamesBack whose calls are told by words, "road(0, 1, 7)"; LOW and HIGH are the ends of int. It counts its
- * calls: what an object answers behind its 512th is free, so a test that goes on so far is wrong itself.
+ * An object of NamesBack whose calls are told by words, "road(0, 1, 7)"; LOW and HIGH are the ends of int. It counts
+ * its calls: what an object answers behind its 512th is free, so a test that goes on so far is wrong itself.
  */
 final class Told {
     static final int LOW = Integer.MIN_VALUE;
     static final int HIGH = Integer.MAX_VALUE;
+    /** No numbers of PLACES where there are three or fewer. */
+    static final String[] NO_PLACES = {"LOW", "-5", "-2", "-1", "3", "4", "7", "10", "HIGH"};
     private static final int MOST_CALLS = 512;
     private static final Pattern CALL = Pattern.compile("(\\w+)\\(([^)]*)\\)");
     private static final Map<String, Method> FACE = face();
@@ -95,6 +97,16 @@ final class Told {
             long got = ask(m.group());
             if (got < 0) {
                 Check.due(m.group() + ", which makes ready,", got, 0);
+            }
+        }
+        return this;
+    }
+
+    /** Runs calls for each pair of so many PLACES; P is the lesser, Q the other. */
+    Told pairs(int places, String calls) {
+        for (int p = 0; p < places; p++) {
+            for (int q = p + 1; q < places; q++) {
+                runs(calls.replace("P", "" + p).replace("Q", "" + q));
             }
         }
         return this;
