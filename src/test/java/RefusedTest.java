@@ -173,7 +173,8 @@ final class RefusedTest {
             "put(1)", "worst(0)", "worst(1)", "turned(0, 2)", "turned(2, 0)", "turned(1, 3)", "turned(3, 1)",
             "chain(0, 3)", "allIn(1)", "allIn(6)", "capitals()", "newRoad(1, 0)", "newRoad(99, 1)", "gets(0)",
             "gets(4)", "odds(0, 2, 6, 0)", "odds(0, 0, 0, 1)", "mean(0)", "mean(1)", "looked(0)", "looked(2)",
-            "judge(0, 0)", "judge(4, 1)", "trace(0)", "taken(4, 3)", "count(0)", "count(5)", "read(0, 0)", "read(5, 1)"};
+            "judge(0, 0)", "judge(4, 1)", "trace(0)", "taken(4, 3)", "count(0)", "count(5)", "read(0, 0)",
+            "read(5, 1)"};
         for (String call : calls) {
             changesNothing("some", call);
             changesNothing("full", call);
