@@ -46,7 +46,8 @@ final class ReadmeTest {
     private static List<String> printedBy(String code, Path out) throws Exception {
         Path file = Files.writeString(out.resolve("Example.java"), code);
         String main = ROOT.resolve("src/main/java/NamesBack.java").toString();
-        int exit = ToolProvider.getSystemJavaCompiler().run(null, null, null, "-d", out.toString(), main, file.toString());
+        int exit = ToolProvider.getSystemJavaCompiler()
+                .run(null, null, null, "-d", out.toString(), main, file.toString());
         Check.due("README: the example compiles", exit, 0);
         String java = Path.of(System.getProperty("java.home"), "bin", "java").toString();
         Process run = new ProcessBuilder(java, "-cp", out.toString(), "Example").redirectErrorStream(true).start();
